@@ -1,0 +1,124 @@
+/** A CutoffSheet whose cells are called by their names and whose texts are typed at once. */
+final class Sheet {
+    final CutoffSheet x = new CutoffSheet();
+
+    static int cell(String name) {
+        return (name.charAt(1) - '1') * 8 + name.charAt(0) - 'a';
+    }
+
+    static String name(int cell) {
+        return cell < 0 ? "error " + cell : "" + (char) ('a' + cell % 8) + (char) ('1' + cell / 8);
+    }
+
+    /** Types a text in place of the one that is there. */
+    Sheet text(String text) {
+        x.clearText();
+        for (char letter : text.toCharArray()) {
+            x.type(letter);
+        }
+        return this;
+    }
+
+    int put(String cell, String formula) {
+        return text(formula).x.put(cell(cell));
+    }
+
+    /** Puts pairs of a cell and a formula and brings the sheet up to date. */
+    int set(String... pairs) {
+        for (int i = 0; i + 1 < pairs.length; i += 2) {
+            put(pairs[i], pairs[i + 1]);
+        }
+        return x.update();
+    }
+
+    int value(String cell) {
+        return x.value(cell(cell));
+    }
+
+    int of(String cell, int what) {
+        return x.cellOf(cell(cell), what);
+    }
+
+    int copy(String from, String to) {
+        return x.copy(cell(from), cell(to));
+    }
+
+    int whatIf(String cell, int number, String of) {
+        return x.whatIf(cell(cell), number, cell(of));
+    }
+
+    void dueValue(String cell, int want) {
+        Check.due("value of " + cell, value(cell), want);
+    }
+
+    void dueError(String cell, int want) {
+        Check.due("error of " + cell, of(cell, 0), want);
+        if (want != 0) {
+            Check.due("value of " + cell + " with an error", value(cell), Check.MISSING);
+        }
+    }
+
+    void dueFormula(String cell, String want) {
+        int number = cell(cell);
+        Check.due("length of " + cell, x.cellOf(number, 8), want.length());
+        for (int i = 0; i < want.length(); i++) {
+            Check.due("letter " + i + " of " + cell, x.letterAt(number, i), want.charAt(i));
+        }
+        Check.due("letter behind " + cell, x.letterAt(number, want.length()), Check.MISSING);
+    }
+
+    void dueReads(String cell, String... want) {
+        int number = cell(cell);
+        for (int i = 0; i < want.length; i++) {
+            Check.due("read " + i + " of " + cell, x.readAt(number, i), cell(want[i]));
+        }
+        Check.due("read behind those of " + cell, x.readAt(number, want.length), Check.MISSING);
+        Check.due("reads of " + cell, x.cellOf(number, 2), want.length);
+    }
+
+    void dueReaders(String cell, String... want) {
+        for (int i = 0; i < want.length; i++) {
+            Check.due("reader " + i + " of " + cell, x.readerAt(cell(cell), i), cell(want[i]));
+        }
+        Check.due("reader behind those of " + cell, x.readerAt(cell(cell), want.length), Check.MISSING);
+    }
+
+    void dueRan(String... want) {
+        for (int i = 0; i < want.length; i++) {
+            Check.due("ranAt(" + i + ")", x.ranAt(i), cell(want[i]));
+            Check.due("was " + want[i] + " run", of(want[i], 5), 1);
+        }
+        Check.due("ranAt behind all", x.ranAt(want.length), Check.MISSING);
+        Check.due("how many were run", x.count(2), want.length);
+    }
+
+    void dueChanged(String... want) {
+        for (int i = 0; i < want.length; i++) {
+            Check.due("changedAt(" + i + ")", x.changedAt(i), cell(want[i]));
+            Check.due("did " + want[i] + " change", of(want[i], 6), 1);
+        }
+        Check.due("changedAt behind all", x.changedAt(want.length), Check.MISSING);
+        Check.due("how many changed", x.count(3), want.length);
+    }
+
+    void dueCause(String cell, String want) {
+        Check.due("cause of " + cell, x.cause(cell(cell)), cell(want));
+    }
+
+    void dueNoCause(String cell) {
+        Check.due("cause of " + cell, x.cause(cell(cell)), Check.MISSING);
+        Check.due("chain of " + cell, x.chainAt(cell(cell), 0), Check.MISSING);
+    }
+
+    void dueChain(String... want) {
+        int number = cell(want[0]);
+        for (int i = 0; i < want.length; i++) {
+            Check.due("chain of " + want[0] + " at " + i, x.chainAt(number, i), cell(want[i]));
+        }
+        Check.due("chain of " + want[0] + " behind its end", x.chainAt(number, want.length), Check.MISSING);
+    }
+
+    void dueCount(int what, int want) {
+        Check.due("count(" + what + ")", x.count(what), want);
+    }
+}
