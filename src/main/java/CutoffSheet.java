@@ -40,7 +40,6 @@ public final class CutoffSheet {
     private static final int KNOWN = 0;
     private static final int UNKNOWN = 1;
     private static final int OPEN = 2;
-    private static final int CYCLIC = 3;
 
     private static final int IF = 0;
     private static final int PICK = 1;
@@ -1218,11 +1217,13 @@ public final class CutoffSheet {
             evaluator.marks[cell] = KNOWN;
         }
 
-        /** Each open cell needs the next one, and the last one needs a cell in a cycle. */
+        /**
+         * Each open cell needs the next one, and the last one needs one of them or a cell in a
+         * cycle. They stay marked as open, so that what reads them is in a cycle, too.
+         */
         private void markCycle(State state, int opened) {
             for (int index = 0; index < opened; index++) {
                 state.cycles[open[index]] = 1;
-                evaluator.marks[open[index]] = CYCLIC;
             }
         }
     }

@@ -9,6 +9,7 @@ public final class CellTest {
         outside();
         values();
         facts();
+        emptied();
         heights();
         letters();
         reads();
@@ -82,6 +83,23 @@ public final class CellTest {
         s.set("c1", "");
         Check.due("nothing in place of a 0", s.of("c1", 6), 1);
         Check.due("runs of c1", s.of("c1", 4), 5);
+    }
+
+    private static void emptied() {
+        Sheet s = new Sheet();
+        s.set("a1", "1", "b1", "a1", "c1", "b1+at(9,9)", "d1", "d1");
+        s.set("b1", "", "c1", "", "d1", "");
+        for (int cell = 1; cell <= 3; cell++) {
+            Check.due("value of an emptied cell", s.x.value(cell), 0);
+            int[] want = {0, 0, 0, 1, 2, 1, 1, 0, 0};
+            for (int what = 0; what <= 8; what++) {
+                Check.due("cellOf " + what + " of an emptied cell", s.x.cellOf(cell, what), want[what]);
+            }
+        }
+        s.dueCount(0, 1);
+        s.dueCount(6, 0);
+        s.dueCount(7, 0);
+        s.dueCount(8, 0);
     }
 
     private static void heights() {

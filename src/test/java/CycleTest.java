@@ -12,6 +12,7 @@ public final class CycleTest {
         errorsInRounds();
         readsOfTheLastRound();
         leavingAndEntering();
+        sameValuesInCycles();
         longRows();
         Check.finish("CycleTest");
     }
@@ -177,6 +178,23 @@ public final class CycleTest {
         s.dueChanged("d1");
         s.dueCause("a1", "a1");
         s.dueChain("c1");
+    }
+
+    /** A cell is run for its cycle alone, though nothing that it read has changed. */
+    private static void sameValuesInCycles() {
+        Sheet s = new Sheet();
+        s.x.rounds(4);
+        s.set("a1", "0", "b1", "a1");
+        s.set("a1", "b1");
+        s.dueRan("a1", "b1");
+        s.dueChanged();
+        s.dueCause("b1", "b1");
+        s.set("a1", "0");
+        s.dueRan("a1", "b1");
+        s.dueChanged();
+        s.dueCause("b1", "b1");
+        s.set("a1", "0");
+        s.dueRan("a1");
     }
 
     /** All 72 cells in a row, begun at its far end, and all in one cycle. */

@@ -7,6 +7,7 @@ public final class HistoryTest {
         eachChange();
         theOldestIsDropped();
         allComesBack();
+        settledComesBack();
         theTextStays();
         noChange();
         Check.finish("HistoryTest");
@@ -102,6 +103,24 @@ public final class HistoryTest {
             answers[next++] = x.waitingAt(index);
         }
         return answers;
+    }
+
+    private static void settledComesBack() {
+        Sheet s = new Sheet();
+        s.set("a1", "a1");
+        s.dueCount(5, 0);
+        s.dueCount(7, 1);
+        s.set("a1", "1");
+        s.dueCount(5, 1);
+        s.dueCount(7, 0);
+        s.x.undo();
+        s.dueCount(5, 0);
+        s.x.rounds(3);
+        s.dueCount(4, 1);
+        s.dueCount(5, 1);
+        s.x.undo();
+        s.dueCount(4, 0);
+        s.dueCount(5, 0);
     }
 
     private static void theTextStays() {

@@ -99,11 +99,11 @@ public final class TextTest {
         at(3, "if(", "if()", "at(", "at(,1)", "1-a", "mod", "sum1", "1-2)", "1-2(");
         at(4, "if(1", "if(1)", "div(", "sum(", "sum()", "min(:", "max(+", "pick", "at(1)");
         at(5, "if(1,", "pick(", "div(1", "div(1)", "sum(9:a1)", "((1))(", "((1))a", "((1)))", "count", "at(1,", "min(a");
-        at(6, "1234567", "if(1,2", "if(1,2)", "count(", "count(1", "count((", "count(-", "count(+", "count(i");
+        at(6, "1234567", "if(1,2", "if(1,2)", "count(", "count(1", "count((", "count(-", "count(+", "count(i", "count()", "count(,");
         at(6, "sum(a1", "sum(a1;", "pick(1", "pick(1)", "sum(a111)");
-        at(7, "sum(c4:", "sum(c4:b", "sum(c4:b5)", "sum(c4:i", "sum(c4:5)", "sum(-a1:b2)", "if(1,2,");
-        at(7, "count(a", "count(at(1,2))", "mod(1,2", "div(1,2,3)", "at(1,22", "sum((a1:b2))");
-        at(8, "sum(c4:d", "sum(c4:d3", "sum(c4:c1", "sum(c4:c0", "count(a1", "count(a1+b1)", "count(a1*2)");
+        at(7, "sum(c4:", "sum(c4:b", "sum(c4:b5)", "sum(c4:i", "sum(c4:5)", "sum(-a1:b2)", "if(1,2,", "sum(a1:)", "sum(a1:,");
+        at(7, "count(a", "count(a)", "count(a,", "count(at(1,2))", "mod(1,2", "div(1,2,3)", "at(1,22", "sum((a1:b2))");
+        at(8, "sum(c4:d", "sum(c4:d)", "sum(c4:d,", "sum(c4:d3", "sum(c4:c1", "sum(c4:c0", "count(a1", "count(a1+b1)", "count(a1*2)");
         at(8, "if(1,2,3", "if(1,2,3,4)");
         at(9, "sum(c4:d4", "sum(a1:b2:c3)", "sum(a1:b2+1)", "if(1,2,3)4", "if(1,2,3))", "if(1,2,3)(");
         at(11, "sum(1,2,3,4,5)", "min(1,2,3,4,", "max(1,2,3,4;");
