@@ -15,47 +15,34 @@ public final class FormulaTest {
         Check.finish("FormulaTest");
     }
 
-    private static void worth(String formula, int want) {
-        Sheet s = new Sheet();
-        s.set("h9", formula);
-        s.dueValue("h9", want);
-        s.dueError("h9", 0);
-    }
-
-    private static void fails(String formula, int error) {
-        Sheet s = new Sheet();
-        s.set("h9", formula);
-        s.dueError("h9", error);
-    }
-
     private static void numbers() {
-        worth("0", 0);
-        worth("000120", 120);
-        worth("999999", 999999);
-        worth("2+3*4", 14);
-        worth("(2+3)*4", 20);
-        worth("10-3-2", 5);
-        worth("10-(3-2)", 9);
-        worth("-2*-3", 6);
-        worth("--5", 5);
-        worth("-(2+3)*2", -10);
-        worth("2*3*4-5*6+7", 1);
+        Sheet.dueWorth("0", 0);
+        Sheet.dueWorth("000120", 120);
+        Sheet.dueWorth("999999", 999999);
+        Sheet.dueWorth("2+3*4", 14);
+        Sheet.dueWorth("(2+3)*4", 20);
+        Sheet.dueWorth("10-3-2", 5);
+        Sheet.dueWorth("10-(3-2)", 9);
+        Sheet.dueWorth("-2*-3", 6);
+        Sheet.dueWorth("--5", 5);
+        Sheet.dueWorth("-(2+3)*2", -10);
+        Sheet.dueWorth("2*3*4-5*6+7", 1);
     }
 
     private static void bounds() {
-        worth("1000*1000*1000", 1000000000);
-        worth("-1000*1000*1000", -1000000000);
-        fails("1000*1000*1000+1", 1);
-        fails("-1000*1000*1000-1", 1);
-        fails("1000*1000*1000+1-1", 1);
-        worth("1000*1000*1000-1+1", 1000000000);
-        fails("999999*9999*0", 1);
-        worth("0*999999*9999", 0);
-        fails("999999*999999*999999", 1);
-        fails("1000*1000*1000*-2", 1);
-        worth("sum(1000*1000*1000,-1,1)", 1000000000);
-        fails("sum(1000*1000*1000,1,-1)", 1);
-        fails("sum(-1000*1000*1000,-1,1)", 1);
+        Sheet.dueWorth("1000*1000*1000", 1000000000);
+        Sheet.dueWorth("-1000*1000*1000", -1000000000);
+        Sheet.dueFails("1000*1000*1000+1", 1);
+        Sheet.dueFails("-1000*1000*1000-1", 1);
+        Sheet.dueFails("1000*1000*1000+1-1", 1);
+        Sheet.dueWorth("1000*1000*1000-1+1", 1000000000);
+        Sheet.dueFails("999999*9999*0", 1);
+        Sheet.dueWorth("0*999999*9999", 0);
+        Sheet.dueFails("999999*999999*999999", 1);
+        Sheet.dueFails("1000*1000*1000*-2", 1);
+        Sheet.dueWorth("sum(1000*1000*1000,-1,1)", 1000000000);
+        Sheet.dueFails("sum(1000*1000*1000,1,-1)", 1);
+        Sheet.dueFails("sum(-1000*1000*1000,-1,1)", 1);
         Sheet s = new Sheet();
         s.set("a1", "1000*1000*999", "b1", "1000*1000", "c1", "1", "d1", "-5", "e1", "div(1,0)");
         s.set("a2", "sum(a1:b1)", "b2", "sum(a1:e1)", "c2", "sum(a1:c1,e1)", "d2", "sum(d1,a1:c1)", "e2", "a1+b1+c1+e1");
@@ -70,24 +57,24 @@ public final class FormulaTest {
     }
 
     private static void choices() {
-        worth("if(1,2,3)", 2);
-        worth("if(0,2,3)", 3);
-        worth("if(-1,2,3)+10", 12);
-        worth("if(0,(2),if(1,4,5))*2", 8);
-        worth("if(0,div(1,0),7)", 7);
-        fails("if(1,div(1,0),7)", 2);
-        fails("if(div(1,0),at(9,9),7)", 2);
-        worth("pick(1,20,30)", 20);
-        worth("pick(2,20,30)+1", 31);
-        worth("pick(4,2,3,4,5)", 5);
-        worth("pick(3,at(8,0),div(1,0),6)", 6);
-        worth("pick(1,6,max(1,2),div(1,0))-1", 5);
-        fails("pick(0,1,2)", 3);
-        fails("pick(3,1,2)", 3);
-        fails("pick(-1,1,2)", 3);
-        fails("pick(5,1,2,3,4)", 3);
-        fails("pick(999999*1000,1,2)", 3);
-        fails("pick(div(1,0),1,2)", 2);
+        Sheet.dueWorth("if(1,2,3)", 2);
+        Sheet.dueWorth("if(0,2,3)", 3);
+        Sheet.dueWorth("if(-1,2,3)+10", 12);
+        Sheet.dueWorth("if(0,(2),if(1,4,5))*2", 8);
+        Sheet.dueWorth("if(0,div(1,0),7)", 7);
+        Sheet.dueFails("if(1,div(1,0),7)", 2);
+        Sheet.dueFails("if(div(1,0),at(9,9),7)", 2);
+        Sheet.dueWorth("pick(1,20,30)", 20);
+        Sheet.dueWorth("pick(2,20,30)+1", 31);
+        Sheet.dueWorth("pick(4,2,3,4,5)", 5);
+        Sheet.dueWorth("pick(3,at(8,0),div(1,0),6)", 6);
+        Sheet.dueWorth("pick(1,6,max(1,2),div(1,0))-1", 5);
+        Sheet.dueFails("pick(0,1,2)", 3);
+        Sheet.dueFails("pick(3,1,2)", 3);
+        Sheet.dueFails("pick(-1,1,2)", 3);
+        Sheet.dueFails("pick(5,1,2,3,4)", 3);
+        Sheet.dueFails("pick(999999*1000,1,2)", 3);
+        Sheet.dueFails("pick(div(1,0),1,2)", 2);
         Sheet s = new Sheet();
         s.set("a1", "if(b1,c1,d1)+e1", "a2", "pick(b2,c2,d2,c1)+e2", "b2", "2");
         s.dueReads("a1", "b1", "d1", "e1");
@@ -102,16 +89,16 @@ public final class FormulaTest {
         int[][] rows = {{7, 2, 3, 1}, {-7, 2, -4, 1}, {7, -2, -4, -1}, {-7, -2, 3, -1}, {6, 3, 2, 0},
             {-6, 3, -2, 0}, {0, 5, 0, 0}, {5, 999999, 0, 5}, {-5, 999999, -1, 999994}, {5, -999999, -1, -999994}};
         for (int[] row : rows) {
-            worth("div(" + row[0] + "," + row[1] + ")", row[2]);
-            worth("mod(" + row[0] + "," + row[1] + ")", row[3]);
+            Sheet.dueWorth("div(" + row[0] + "," + row[1] + ")", row[2]);
+            Sheet.dueWorth("mod(" + row[0] + "," + row[1] + ")", row[3]);
         }
-        worth("div(-1000*1000*1000,-1)", 1000000000);
-        worth("mod(-1000*1000*1000,999999)", 998999);
-        worth("mod(1-1000*1000*1000,7*7)+0", 49 - 999999999 % 49);
-        fails("div(1,0)", 2);
-        fails("mod(0,0)", 2);
-        fails("div(at(8,0),0)", 3);
-        fails("mod(1,at(0,9))", 3);
+        Sheet.dueWorth("div(-1000*1000*1000,-1)", 1000000000);
+        Sheet.dueWorth("mod(-1000*1000*1000,999999)", 998999);
+        Sheet.dueWorth("mod(1-1000*1000*1000,7*7)+0", 49 - 999999999 % 49);
+        Sheet.dueFails("div(1,0)", 2);
+        Sheet.dueFails("mod(0,0)", 2);
+        Sheet.dueFails("div(at(8,0),0)", 3);
+        Sheet.dueFails("mod(1,at(0,9))", 3);
         Sheet s = new Sheet();
         s.set("a1", "div(b1,c1)+d1", "b1", "mod(1,0)", "a2", "div(b2,c2)+d2");
         s.dueReads("a1", "b1");
@@ -133,25 +120,25 @@ public final class FormulaTest {
         s.dueValue("b5", 0);
         s.dueReads("b5", "f6");
         for (String outside : new String[] {"at(8,0)", "at(-1,0)", "at(0,9)", "at(0,-1)", "at(9999*9999,0)"}) {
-            fails(outside, 3);
+            Sheet.dueFails(outside, 3);
         }
-        fails("at(9,div(1,0))", 2);
+        Sheet.dueFails("at(9,div(1,0))", 2);
     }
 
     private static void gathering() {
-        worth("min(3,1,2)", 1);
-        worth("max(3,1,2)", 3);
-        worth("sum(3,1,2,-10)", -4);
-        worth("min(5)", 5);
-        worth("min(a1)", 0);
-        worth("max(a1:c3)-1", -1);
-        worth("sum(a1:c3)", 0);
-        worth("count(a1:c3,d4)", 0);
-        worth("max(a1:c3,-4)", -4);
-        worth("max((a1),-4)", 0);
-        worth("min(a1,4)", 4);
-        worth("min(a1+0,4)", 0);
-        worth("max(-a1,-4)", 0);
+        Sheet.dueWorth("min(3,1,2)", 1);
+        Sheet.dueWorth("max(3,1,2)", 3);
+        Sheet.dueWorth("sum(3,1,2,-10)", -4);
+        Sheet.dueWorth("min(5)", 5);
+        Sheet.dueWorth("min(a1)", 0);
+        Sheet.dueWorth("max(a1:c3)-1", -1);
+        Sheet.dueWorth("sum(a1:c3)", 0);
+        Sheet.dueWorth("count(a1:c3,d4)", 0);
+        Sheet.dueWorth("max(a1:c3,-4)", -4);
+        Sheet.dueWorth("max((a1),-4)", 0);
+        Sheet.dueWorth("min(a1,4)", 4);
+        Sheet.dueWorth("min(a1+0,4)", 0);
+        Sheet.dueWorth("max(-a1,-4)", 0);
         Sheet s = new Sheet();
         s.set("b2", "5", "c2", "-7", "c3", "1", "d4", "0");
         s.set("a1", "min(b2:d4)", "a2", "max(b2:d4,4)", "a3", "sum(b2:d4,b2:c2)", "a4", "count(b2:d4,d4,a1:a1)");

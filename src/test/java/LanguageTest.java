@@ -1,4 +1,6 @@
 import java.io.IOException;
+import java.lang.reflect.Field;
+import java.lang.reflect.Modifier;
 import java.nio.file.Files;
 import java.nio.file.Path;
 import java.util.ArrayList;
@@ -13,6 +15,9 @@ public final class LanguageTest {
     private static final List<String> FACE = List.of("type", "clearText", "fault", "put", "copy", "drop",
             "waitingAt", "update", "rounds", "value", "cellOf", "letterAt", "readAt", "readerAt", "ranAt",
             "changedAt", "cause", "chainAt", "whatIf", "count", "undo");
+
+    private static final List<Class<?>> CONSTANTS = List.of(int.class, long.class, boolean.class, char.class, String.class,
+            int[].class, long[].class, char[].class, byte[].class);
 
     private LanguageTest() {
     }
@@ -53,14 +58,13 @@ public final class LanguageTest {
                 start = -1;
             }
         }
-        none("more than seven parameters", code, "\\(int \\w+(, \\S+ \\w+){7,}\\)");
     }
 
     private static void members() {
         TreeSet<String> open = new TreeSet<>();
         for (var method : CutoffSheet.class.getDeclaredMethods()) {
-            boolean isPublic = (method.getModifiers() & 1) != 0;
-            boolean isPrivate = (method.getModifiers() & 2) != 0;
+            boolean isPublic = Modifier.isPublic(method.getModifiers());
+            boolean isPrivate = Modifier.isPrivate(method.getModifiers());
             Check.due("public or private: " + method, isPublic || isPrivate ? 1 : 0, 1);
             if (isPublic) {
                 open.add(method.getName());
@@ -72,11 +76,38 @@ public final class LanguageTest {
         List<Class<?>> classes = new ArrayList<>(Arrays.asList(CutoffSheet.class.getDeclaredClasses()));
         Check.due("at most twelve classes", classes.size() < 12 ? 1 : 0, 1);
         for (Class<?> inside : classes) {
-            Check.due("static: " + inside, (inside.getModifiers() & 8) != 0 ? 1 : 0, 1);
+            Check.due("static: " + inside, Modifier.isStatic(inside.getModifiers()));
             for (var method : inside.getDeclaredMethods()) {
                 Check.due("name of " + method, FACE.contains(method.getName()) ? 1 : 0, 0);
             }
-            Check.due("at most twenty fields", inside.getDeclaredFields().length <= 20 ? 1 : 0, 1);
         }
+        classes.add(CutoffSheet.class);
+        classes.forEach(LanguageTest::parts);
+    }
+
+    /** Rules 3, 5 and 11: fields and parameters. */
+    private static void parts(Class<?> part) {
+        int fields = 0;
+        for (Field field : part.getDeclaredFields()) {
+            boolean isStatic = Modifier.isStatic(field.getModifiers());
+            fields += isStatic ? 0 : 1;
+            Check.due("a static field is final: " + field, !isStatic || Modifier.isFinal(field.getModifiers()));
+            Check.due("its type: " + field, isStatic ? CONSTANTS.contains(field.getType()) : isAllowed(field.getType()));
+        }
+        Check.due("at most twenty fields: " + part, fields <= 20);
+        for (var method : part.getDeclaredMethods()) {
+            Check.due("at most seven parameters: " + method, method.getParameterCount() <= 7);
+            Check.due("no lambda: " + method, !method.isSynthetic());
+        }
+        for (var constructor : part.getDeclaredConstructors()) {
+            Check.due("at most seven parameters: " + constructor, constructor.getParameterCount() <= 7);
+        }
+    }
+
+    private static boolean isAllowed(Class<?> type) {
+        Class<?> element = type.isArray() ? type.getComponentType() : type;
+        boolean isNumbers = element.isArray() && element.getComponentType().isPrimitive();
+        return isNumbers || element.isPrimitive() || element == String.class
+                || element.getNestHost() == CutoffSheet.class;
     }
 }

@@ -12,6 +12,9 @@ final class Sheet {
 
     /** Types a text in place of the one that is there. */
     Sheet text(String text) {
+        if (text.length() > 30) {
+            throw new IllegalArgumentException("too long to be typed: " + text);
+        }
         x.clearText();
         for (char letter : text.toCharArray()) {
             x.type(letter);
@@ -120,5 +123,77 @@ final class Sheet {
 
     void dueCount(int what, int want) {
         Check.due("count(" + what + ")", x.count(what), want);
+    }
+
+    void dueIs(String cell, int what, int want) {
+        Check.due("cellOf " + what + " of " + cell, of(cell, what), want);
+    }
+
+    void dueWaiting(String... want) {
+        for (int i = 0; i < want.length; i++) {
+            Check.due("waitingAt(" + i + ")", x.waitingAt(i), cell(want[i]));
+        }
+        Check.due("waitingAt behind all", x.waitingAt(want.length), Check.MISSING);
+        Check.due("how many wait", x.count(1), want.length);
+    }
+
+    /** That a formula is worth a value in a sheet that has nothing else. */
+    static void dueWorth(String formula, int want) {
+        Sheet s = new Sheet();
+        s.set("h9", formula);
+        Check.due("value of " + formula, s.value("h9"), want);
+        Check.due("error of " + formula, s.of("h9", 0), 0);
+    }
+
+    /** That a formula has an error in a sheet that has nothing else. */
+    static void dueFails(String formula, int error) {
+        Sheet s = new Sheet();
+        s.set("h9", formula);
+        Check.due("error of " + formula, s.of("h9", 0), error);
+        Check.due("value of " + formula, s.value("h9"), Check.MISSING);
+    }
+
+    static void dueNoFault(String... texts) {
+        dueFault(Check.MISSING, texts);
+    }
+
+    static void dueFault(int position, String... texts) {
+        for (String text : texts) {
+            Check.due("fault of " + text, new Sheet().text(text).x.fault(), position);
+        }
+    }
+
+    /** What undo brings back, of the first six cells and all together. */
+    int[] everything() {
+        int[] answers = new int[154];
+        int next = 0;
+        for (int cell = 0; cell < 6; cell++) {
+            answers[next++] = x.value(cell);
+            answers[next++] = x.cause(cell);
+            for (int what = 0; what <= 8; what++) {
+                answers[next++] = x.cellOf(cell, what);
+            }
+            for (int index = 0; index < 3; index++) {
+                answers[next++] = x.letterAt(cell, index);
+                answers[next++] = x.readAt(cell, index);
+                answers[next++] = x.chainAt(cell, index);
+            }
+        }
+        for (int what = 0; what <= 12; what++) {
+            answers[next++] = what == 10 || what == 11 ? 0 : x.count(what);
+        }
+        for (int index = 0; index < 7; index++) {
+            answers[next++] = x.ranAt(index);
+            answers[next++] = x.changedAt(index);
+            answers[next++] = x.waitingAt(index);
+        }
+        return answers;
+    }
+
+    void dueEverything(int[] want) {
+        int[] answers = everything();
+        for (int i = 0; i < want.length; i++) {
+            Check.due("answer " + i + " of all", answers[i], want[i]);
+        }
     }
 }
